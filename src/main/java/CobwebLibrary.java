@@ -1043,8 +1043,8 @@ public final class CobwebLibrary {
         private final int[] threadsTold = new int[BOOKS_MOST];
         private int websTold = 0;
         private int wordsTold = 0;
-        private int lesser = 0;
-        private int other = 0;
+        private int first = 0;
+        private int second = 0;
 
         /** How many lines; a fault stands on the tape. */
         int readFrom(Tape tape) {
@@ -1192,7 +1192,7 @@ public final class CobwebLibrary {
             if (!readPair(tape, threadsTold) || !tape.hasNumber(1, THICK_MOST)) {
                 return false;
             }
-            shelves.setThread(lesser, other, tape.value);
+            shelves.setThread(first, second, tape.value);
             tape.advance();
             return true;
         }
@@ -1204,20 +1204,20 @@ public final class CobwebLibrary {
         /** Two unlike books that toldWith does not hold together yet: it does then. */
         private boolean readPair(Tape tape, int[] toldWith) {
             tape.advance();
-            lesser = plan.bookTold(tape);
-            if (lesser == NONE) {
+            first = plan.bookTold(tape);
+            if (first == NONE) {
                 return false;
             }
             tape.advance();
-            other = plan.bookTold(tape);
-            if (other == NONE) {
+            second = plan.bookTold(tape);
+            if (second == NONE) {
                 return false;
             }
-            if (lesser == other || bitOf(toldWith[lesser], other) == 1) {
+            if (first == second || bitOf(toldWith[first], second) == 1) {
                 return tape.fail(FAULT_TOLD);
             }
-            toldWith[lesser] |= 1 << other;
-            toldWith[other] |= 1 << lesser;
+            toldWith[first] |= 1 << second;
+            toldWith[second] |= 1 << first;
             tape.advance();
             return true;
         }
