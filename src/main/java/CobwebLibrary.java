@@ -59,7 +59,7 @@ public final class CobwebLibrary {
     private static final int TOKEN_NUMBER = 2;
 
     private static final int WORD_COLUMNS = 8;
-    /** All words that can be no names, each in eight columns: a word's number is its place here, from 1. */
+    /** All words that can be no names, each in eight columns with a blank at the end; they are numbered from 1. */
     private static final String WORDS = "shelves book    rare    web     thread  quarrel law     spin    line    draught ask     broom   move    day     or      and     not     doubt   lawful  dogma   asked   follows dust    bonds   number  ";
     private static final int NO_WORD = 0;
     private static final int SHELVES = 1;
@@ -617,21 +617,15 @@ public final class CobwebLibrary {
 
         private int wordNumber() {
             for (int from = 0; from + WORD_COLUMNS <= WORDS.length(); from += WORD_COLUMNS) {
-                if (isWordAt(from)) {
+                int like = 0;
+                while (like < size && WORDS.charAt(from + like) == bytes[place + like]) {
+                    like++;
+                }
+                if (like == size && WORDS.charAt(from + like) == ' ') {
                     return from / WORD_COLUMNS + 1;
                 }
             }
             return NO_WORD;
-        }
-
-        private boolean isWordAt(int from) {
-            for (int k = 0; k < WORD_COLUMNS; k++) {
-                int sign = k < size ? bytes[place + k] : ' ';
-                if (WORDS.charAt(from + k) != sign) {
-                    return false;
-                }
-            }
-            return true;
         }
 
         boolean fail(int faultNumber) {
@@ -932,7 +926,8 @@ public final class CobwebLibrary {
 
         private void cutThreads(int a) {
             for (int b = 0; b < BOOKS_MOST; b++) {
-                setThread(a, b, 0);
+                threads[pairPlace(a, b)] = 0;
+                threads[pairPlace(b, a)] = 0;
             }
         }
 
@@ -1071,8 +1066,8 @@ public final class CobwebLibrary {
                 case SHELVES: return readShelves(tape);
                 case BOOK: return readBook(tape);
                 case WEB: return readWeb(tape);
-                case THREAD: return readThread(tape);
-                case QUARREL: return readQuarrel(tape);
+                case THREAD: return readPair(tape, threadsTold) && readThickness(tape);
+                case QUARREL: return readPair(tape, plan.quarrels);
                 case LAW: return readNumber(tape, 1, LAW_MOST);
                 case SPIN: return readNumber(tape, 1, SPIN_MOST);
                 case LINE: return readNumber(tape, 1, LINE_MOST);
@@ -1188,17 +1183,13 @@ public final class CobwebLibrary {
             return true;
         }
 
-        private boolean readThread(Tape tape) {
-            if (!readPair(tape, threadsTold) || !tape.hasNumber(1, THICK_MOST)) {
+        private boolean readThickness(Tape tape) {
+            if (!tape.hasNumber(1, THICK_MOST)) {
                 return false;
             }
             shelves.setThread(first, second, tape.value);
             tape.advance();
             return true;
-        }
-
-        private boolean readQuarrel(Tape tape) {
-            return readPair(tape, plan.quarrels);
         }
 
         /** Two unlike books that toldWith does not hold together yet: it does then. */
@@ -1236,15 +1227,17 @@ public final class CobwebLibrary {
         private final int[] cellsX = new int[LIFE_LINES_MOST];
         private final int[] cellsY = new int[LIFE_LINES_MOST];
 
-        boolean readFrom(Tape tape, Plan plan) {
+        /** A fault stands on the tape then. */
+        void readFrom(Tape tape, Plan plan) {
             size = 0;
             tape.open(LIFE_MOST);
-            for (int k = 0; k <= LIFE_LINES_MOST && tape.kind != TOKEN_END; k++) {
-                if (!readLine(tape, plan) || !tape.passSign(';')) {
-                    return false;
-                }
+            boolean isFine = true;
+            for (int k = 0; k <= LIFE_LINES_MOST && isFine && tape.kind != TOKEN_END; k++) {
+                isFine = readLine(tape, plan) && tape.passSign(';');
             }
-            return tape.closes();
+            if (isFine) {
+                tape.closes();
+            }
         }
 
         private boolean readLine(Tape tape, Plan plan) {
@@ -1360,11 +1353,11 @@ public final class CobwebLibrary {
             System.arraycopy(other.values, 0, values, 0, SENTENCE_ROOM);
         }
 
-        boolean readFrom(Tape tape, Plan plan) {
+        /** A fault stands on the tape then. */
+        void readFrom(Tape tape, Plan plan) {
             forget();
             tape.open(SENTENCE_MOST);
             isTold = readCond(tape, plan, 1) && tape.closes();
-            return isTold;
         }
 
         private boolean readCond(Tape tape, Plan plan, int depth) {

@@ -40,6 +40,7 @@ public final class FaultsTest {
         fine("book a 00 000;", 1);
         fine("book abcdefg 0 0;", 1);
         fine("book is 0 0;book asks 1 0;", 2);
+        fine("book daw 0 0;book bare 1 0;book jeb 2 0;book la 3 0;book lawn 0 1;book o 1 1;book quarrem 2 1;", 7);
         library("book abcdefgh 0 0;", 5, 1);
         library("book a 0 0000;", 9, 1);
         library("book a 0 0rare;", 9, 1);

@@ -32,7 +32,7 @@ public final class RandomRunsTest {
     }
 
     public static void main(String[] args) {
-        int runs = args.length > 0 ? Integer.parseInt(args[0]) : 400;
+        int runs = args.length > 0 ? Integer.parseInt(args[0]) : 1500;
         long first = args.length > 1 ? Long.parseLong(args[1]) : 0;
         for (long seed = first; seed < first + runs && wrong < 3; seed++) {
             RandomRunsTest run = new RandomRunsTest(seed);
