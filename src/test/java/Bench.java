@@ -10,6 +10,10 @@ final class Bench {
         part = name;
     }
 
+    int checks() {
+        return checks;
+    }
+
     void due(String call, long got, long want) {
         checks++;
         if (got != want) {
