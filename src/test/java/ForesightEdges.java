@@ -353,6 +353,13 @@ final class ForesightEdges {
         kept(Edges.made("law 1;book a 0 0;book z 3 3 rare;"), 8, 8, 1, 1, 1, 1, 1, 1, 1, 1, -1);
     }
 
+    static void promise22_eightBooks() {
+        String text = "law 50;book a 0 0;book b 1 0;book c 2 0;book d 3 0;book e 0 1;book f 1 1;book g 2 1 rare;book h 3 1 rare;";
+        kept(Edges.made(text), 8, 0, -1, -1, -1, -1, -1, -1, -1, -1);
+        kept(Edges.made(text + "web h 42;"), 8, 1, 7, -1, -1, -1, -1, -1, -1, -1);
+        kept(Edges.made(text + "web h 42;web g 49;"), 8, 2, 6, 7, -1, -1, -1, -1, -1, -1);
+    }
+
     static void promise22_noneBehindAllBooks() {
         CobwebLibrary x = Edges.made("law 4;book a 0 0 rare;");
         kept(x, 4, 1, 0, -1, -1, -1, -1);
@@ -684,6 +691,23 @@ final class ForesightEdges {
             + "thread a b 99;thread e d 98;thread f g 1;", 1, 1, 6);
     }
 
+    static void promise27_eightBooks() {
+        String text = "shelves 2 4;book a 0 0;book b 1 0;book c 0 1;book d 1 1;book e 0 2;book f 1 2;book g 0 3;book h 1 3;";
+        tornBy(text + "thread a g 3;thread b h 2;", 7, 4, 4);
+        tornBy(text + "thread a g 2;thread b h 9;", 7, 4, 4);
+        tornBy(text + "thread a e 5;thread d h 4;thread g h 7;thread a b 8;", 7, 4, 4);
+    }
+
+    static void promise27_againAndAgain() {
+        CobwebLibrary x = Edges.made("shelves 3 2;book a 0 0;book b 2 0;book c 1 0;thread a b 9;");
+        Edges.due("torn(2)", x.torn(2), 9);
+        Edges.due("torn(2)", x.torn(2), 9);
+        x.ask(0);
+        Edges.due("torn(2) when the thread is gone", x.torn(2), 0);
+        x.undo();
+        Edges.due("torn(2) when it hangs again", x.torn(2), 9);
+    }
+
     static void promise27_nothingIsDone() {
         CobwebLibrary x = Edges.made("shelves 3 2;book a 0 0;book b 2 0;book c 1 0;thread a b 9;");
         String ahead = Edges.allOf(x);
@@ -781,6 +805,16 @@ final class ForesightEdges {
         turned(x, 1, 8, -1);
         turned(x, 2, 7, 0);
         turned(x, 3, 8, 0);
+    }
+
+    static void promise29_behindALargerLibrary() {
+        CobwebLibrary x = Edges.made(eight("law 1;web b 99;web c 99;"));
+        turned(x, 3, 8, 0);
+        Edges.library(x, "law 1;book z 0 0;");
+        turned(x, 1, 1, -1);
+        turned(x, 3, 1, 0);
+        x.ask(0);
+        turned(x, 1, 0, -1);
     }
 
     static void promise29_withoutDraughtsAndNothingIsDone() {

@@ -76,6 +76,20 @@ final class LibraryEdges {
         }
     }
 
+    static void promise04_bytesThatAreNoTokens() {
+        for (int sign = 0; sign < 256; sign++) {
+            boolean isBlank = sign == 32 || sign == 10;
+            boolean isDigit = sign >= '0' && sign <= '9';
+            boolean isLetter = sign >= 'a' && sign <= 'z';
+            if (!isBlank && !isDigit && !isLetter) {
+                Edges.faulty("" + (char) sign, 0, 1);
+                Edges.faulty("law 7;" + (char) sign, 6, 1);
+                Edges.faulty("law " + (char) sign + ";", 4, 1);
+                Edges.faulty("book " + (char) sign + " 0 0;", 5, 1);
+            }
+        }
+    }
+
     static void promise04_wordsAreOfSmallLettersAlone() {
         Edges.faulty("Law 7;", 0, 1);
         Edges.faulty("book A 0 0;", 5, 1);
@@ -132,6 +146,13 @@ final class LibraryEdges {
         Edges.faulty(Bench.padded("law 7;", 899) + "lawn", 899, 1);
         Edges.faulty(Bench.padded("law 7;", 899) + "spin 2;", 900, 1);
         Edges.faulty(Bench.padded("law 7;", 896) + "spinnets", 896, 1);
+    }
+
+    static void promise04_oneTokenOfAllTheTape() {
+        Edges.faulty("a".repeat(940), 0, 1);
+        Edges.faulty("7".repeat(940), 0, 1);
+        Edges.faulty("law " + "7".repeat(936), 4, 1);
+        Edges.faulty(Bench.padded("law 7;", 899) + "a".repeat(41), 899, 1);
     }
 
     static void promise04_theEndIsWhereTheBytesEnd() {
@@ -232,9 +253,8 @@ final class LibraryEdges {
             if (word.length() < 7) {
                 Edges.fine("book " + word + "x 0 0;", 1);
             }
-            if (word.length() > 2) {
-                Edges.fine("book " + word.substring(1) + " 0 0;", 1);
-            }
+            Edges.fine("book x" + word.substring(1) + " 0 0;", 1);
+            Edges.fine("book " + word.substring(1) + " 0 0;", 1);
         }
     }
 
@@ -261,6 +281,24 @@ final class LibraryEdges {
         Edges.faulty(eightBooks() + "book i 0 2;", 88, 4);
         Edges.faulty(eightBooks() + "book", 88, 4);
         Edges.fine(eightBooks() + "web h 1;", 9);
+    }
+
+    static void promise04_aNameNotToldAmongEightBooks() {
+        Edges.faulty(eightBooks() + "web i 1;", 92, 3);
+        Edges.faulty(eightBooks() + "quarrel a i;", 98, 3);
+        Edges.faulty(eightBooks() + "thread h i 1;", 97, 3);
+    }
+
+    static void promise04_eightNamesOfSevenLetters() {
+        StringBuilder text = new StringBuilder();
+        for (int b = 0; b < 8; b++) {
+            text.append("book ").append("sevenl").append((char) ('h' - b)).append(' ').append(b % 4).append(' ');
+            text.append(b / 4).append(';');
+        }
+        CobwebLibrary x = Edges.made(text.toString());
+        for (int b = 0; b < 8; b++) {
+            Edges.due("card", Bench.card(x, b), "sevenl" + (char) ('h' - b) + " is in doubt by 0");
+        }
     }
 
     static void promise04_booksAreNumberedFromNought() {

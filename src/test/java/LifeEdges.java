@@ -193,6 +193,15 @@ final class LifeEdges {
         faulty("day 1;ask c;?", 10, 3);
     }
 
+    static void promise34_bytesThatAreNoTokens() {
+        for (int sign : new int[] {0, 1, 2, 9, 13, '.', ',', 'A', 'Z', 127, 128, 160, 255}) {
+            faulty("" + (char) sign, 0, 1);
+            faulty("day 1;" + (char) sign, 6, 1);
+            faulty("day " + (char) sign + ";", 4, 1);
+            faulty("ask " + (char) sign + ";", 4, 1);
+        }
+    }
+
     static void promise34_theTapeIsEmptyThen() {
         CobwebLibrary x = Edges.made(TWO);
         Edges.life(x, 0, "day 1;");

@@ -82,12 +82,24 @@ final class SentenceEdges {
         faulty("dust 3", 5, 1);
         faulty("dust < a", 7, 1);
         faulty("dust < > 3", 7, 1);
+        faulty("dust < or or", 7, 1);
+        faulty("dust or or", 5, 1);
+        faulty("follows or or", 8, 1);
         faulty("dust < (3)", 7, 1);
         faulty("number = 1000", 9, 1);
         faulty("asked a", 6, 1);
         faulty("follows 1", 8, 1);
         faulty("follows (a)", 8, 1);
         faulty("follows rare", 8, 1);
+    }
+
+    static void promise36_bytesThatAreNoTokens() {
+        for (int sign : new int[] {0, 1, 2, 9, 13, '.', ',', 'A', 'Z', 127, 128, 160, 255}) {
+            faulty("" + (char) sign, 0, 1);
+            faulty("rare" + (char) sign, 4, 1);
+            faulty("dust<" + (char) sign, 5, 1);
+            faulty("follows " + (char) sign, 8, 1);
+        }
     }
 
     static void promise36_aBookThatWasNotTold() {
@@ -102,6 +114,7 @@ final class SentenceEdges {
         fine("not (not rare)", 4);
         fine("rare or doubt and asked", 3);
         fine("follows a and not (dust > 9)", 4);
+        fine("not(dust<3)or(number=0)and(rare)", 7);
     }
 
     static void promise36_twentyOnesAtMost() {
@@ -112,6 +125,10 @@ final class SentenceEdges {
         faulty(twenty + " or", 159, 1);
         faulty(twenty + " or (", 160, 4);
         faulty(twenty + " and not", 161, 4);
+        String joined = "rare and ".repeat(19) + "rare";
+        fine(joined, 20);
+        faulty(joined + " and rare", 180, 4);
+        faulty(joined + " or rare", 179, 4);
         String brackets = "(rare)or".repeat(9) + " rare";
         fine(brackets, 19);
         fine(brackets + " or rare", 20);
@@ -155,6 +172,15 @@ final class SentenceEdges {
         Edges.due("said(0)", x.said(0), 1);
     }
 
+    static void promise36_aShorterOneBehindALongerOne() {
+        CobwebLibrary x = Edges.made(TWO);
+        said(x, "not number = 0", 1);
+        said(x, "number = 0", 0);
+        said(x, "rare or not not number = 0", 0);
+        said(x, "not rare", 0, 1);
+        said(x, "rare");
+    }
+
     // ---- 37
 
     static void promise37_thereIsNoSentence() {
@@ -194,6 +220,9 @@ final class SentenceEdges {
         }
         CobwebLibrary x = Edges.made(text.toString());
         said(x, "doubt", 0, 1, 2, 3, 4, 5, 6, 7);
+        said(x, "dust = 0", 0, 1, 2, 3, 4, 5, 6, 7);
+        said(x, "bonds = 0", 0, 1, 2, 3, 4, 5, 6, 7);
+        said(x, "not follows h", 0, 1, 2, 3, 4, 5, 6);
         said(x, "number > 6", 7);
         said(x, "number > 7");
         said(x, "number < 1", 0);

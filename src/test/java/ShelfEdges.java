@@ -188,6 +188,9 @@ final class ShelfEdges {
         Edges.due("sight(1)", x.sight(1), 4);
         Edges.due("sight(2)", x.sight(2), 27);
         Edges.due("sight(3)", x.sight(3), 4);
+        CobwebLibrary first = Edges.made("book a 1 1;book b 0 1;book c 3 1;book d 1 0;book e 1 3;");
+        Edges.due("the first book between", first.sight(1), 1);
+        Edges.due("the first book between", first.sight(4), 1);
         x.move(2, 4, 4);
         Edges.due("sight(0) when it is gone", x.sight(0), 2);
         Edges.due("sight(3) when it is gone", x.sight(3), 16);
@@ -381,6 +384,17 @@ final class ShelfEdges {
         Edges.due("broom(1)", x.broom(1), 0);
         Edges.due("now(5)", x.now(5), 0);
         Edges.due("broom(0)", x.broom(0), 1);
+    }
+
+    static void promise12_eightBooks() {
+        CobwebLibrary x = eight();
+        Edges.due("broom(3): the eighth book, no web, no thread", x.broom(3), 1);
+        CobwebLibrary y = Edges.made("shelves 2 4;book a 0 0;book b 1 0;book c 0 1;book d 1 1;book e 0 2;book f 1 2;book g 0 3;"
+            + "book h 1 3;thread h a 1;");
+        Edges.due("broom(3): the eighth book's thread", y.broom(3), 0);
+        Edges.due("now(5)", y.now(5), 0);
+        Edges.due("broom(0)", y.broom(0), 1);
+        Edges.due("broom(3)", y.broom(3), 1);
     }
 
     static void promise12_otherRowsStay() {
@@ -753,6 +767,19 @@ final class ShelfEdges {
         Edges.due("now(0)", x.now(0), 3);
         Edges.due("undo()", x.undo(), 0);
         Edges.due("now(0)", x.now(0), 0);
+    }
+
+    /** It was lived, as far as it is not wrong: the document asks for no more. */
+    static void promise15_aLifeOfWhichNothingWent() {
+        CobwebLibrary x = Edges.made(FOUR);
+        x.ask(0);
+        x.life(1);
+        Edges.due("undo() of an empty life", x.undo(), 1);
+        Edges.due("now(6)", x.now(6), 1);
+        Edges.life(x, 1, "ask a;day 1;");
+        Edges.due("undo() of a life that is wrong at once", x.undo(), 1);
+        Edges.due("undo() of the asking", x.undo(), 0);
+        Edges.due("now(6)", x.now(6), 0);
     }
 
     static void promise15_theTapeAndTheSentenceStay() {

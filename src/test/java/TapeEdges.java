@@ -65,6 +65,21 @@ final class TapeEdges {
         Edges.due("days(30, 1)", x.days(30, 1), 30);
     }
 
+    static void promise01_asManyAs512Calls() {
+        CobwebLibrary x = new CobwebLibrary();
+        Bench.feed(x, "book a 0 0;web a 9;");
+        x.library();
+        int calls = 4;
+        while (calls < 510) {
+            x.ask(0);
+            x.days(30, calls);
+            x.undo();
+            calls += 3;
+        }
+        Edges.due("the 512th call is the next one", calls, 511);
+        Edges.due("days(29, 1)", x.days(29, 1), 29);
+    }
+
     static void promise02_theHighestByteComesFirst() {
         CobwebLibrary x = new CobwebLibrary();
         Edges.due("feed", x.feed(0x626f6f6b, 0x20612030, 0x20303b77, 0x65622061, 0x2031373b), 20);
@@ -164,6 +179,20 @@ final class TapeEdges {
         Edges.due("end(0)", x.end(0), true);
         Edges.due("end(1)", x.end(1), false);
         Edges.due("library()", x.library(), 0);
+    }
+
+    static void promise03_bytesBehindItAreNoMore() {
+        CobwebLibrary x = new CobwebLibrary();
+        x.feed(0x72617265, 0x73737373, 0x73737373, 0x73737373, 0x73737373);
+        x.end(4);
+        Edges.due("sentence() of 'rare'", x.sentence(), 1);
+        x.feed(0x6c617720, 0x37373737, 0x37373737, 0x37373737, 0x37373737);
+        x.end(5);
+        Edges.due("library() of 'law 7'", x.library(), -6);
+        Edges.due("fault()", x.fault(), 1);
+        x.feed(0x6c617720, 0x373b6262, 0x62626262, 0x62626262, 0x62626262);
+        x.end(6);
+        Edges.due("library() of 'law 7;'", x.library(), 1);
     }
 
     static void promise40_eachCount() {
